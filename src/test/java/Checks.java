@@ -1,0 +1,92 @@
+/** Counts answers that are as due and prints those that are not. */
+final class Checks {
+    private final String name;
+    private int right;
+    private int wrong;
+    private String about = "";
+
+    Checks(String name) {
+        this.name = name;
+    }
+
+    void about(String promise) {
+        about = promise;
+    }
+
+    void due(String call, long got, long want) {
+        if (got == want) {
+            right++;
+        } else {
+            wrong++;
+            System.out.println(name + ", " + about + ": " + call + " answered " + got + ", due is " + want);
+        }
+    }
+
+    void due(String call, boolean got, boolean want) {
+        due(call, got ? 1 : 0, want ? 1 : 0);
+    }
+
+    void yes(String call, boolean got) {
+        due(call, got, true);
+    }
+
+    void no(String call, boolean got) {
+        due(call, got, false);
+    }
+
+    /** Tells a text whole: feeds it by twenties, ends it at its length. */
+    static void feed(PulledJersey x, String text) {
+        for (int from = 0; from < text.length(); from += 20) {
+            int[] five = new int[5];
+            for (int i = 0; i < 20; i++) {
+                int sign = from + i < text.length() ? text.charAt(from + i) : ' ';
+                five[i / 4] = five[i / 4] << 8 | sign;
+            }
+            x.feed(five[0], five[1], five[2], five[3], five[4]);
+        }
+        x.end(text.length());
+    }
+
+    static int tell(PulledJersey x, String text) {
+        x.end(0);
+        feed(x, text);
+        return x.text();
+    }
+
+    /** That the text has the fault at the place, and that the law stays and the tape is empty. */
+    void faulty(String text, int fault, int place) {
+        PulledJersey x = new PulledJersey();
+        tell(x, "run 1;run 2;run 3;");
+        due(text, tell(x, text), PulledJersey.NONE);
+        due("fault(0) of " + text, x.fault(0), fault);
+        due("fault(1) of " + text, x.fault(1), place);
+        due("look(9) behind " + text, x.look(9), 3);
+        no("end(1) behind " + text, x.end(1));
+    }
+
+    /** Stitch 10 is loose: kind 3, row 1, column 2, beside 1, below 1, hour 7, gone 2. */
+    static PulledJersey loose() {
+        PulledJersey x = new PulledJersey();
+        x.set(0, 10, 3);
+        x.gone(26);
+        x.gone(18);
+        x.gone(9);
+        tell(x, "run 0;");
+        x.hours(7);
+        return x;
+    }
+
+    void odds(String text, int want) {
+        PulledJersey x = loose();
+        tell(x, text);
+        due("fault(0) of " + text, x.fault(0), 0);
+        due("odds by " + text, x.of(10, 5), want);
+    }
+
+    void close() {
+        System.out.println(name + ": " + right + " right, " + wrong + " wrong");
+        if (wrong != 0 || right == 0) {
+            System.exit(1);
+        }
+    }
+}
