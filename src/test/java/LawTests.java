@@ -113,6 +113,15 @@ public final class LawTests {
         C.faulty("runs 1;", 1, 0);
         C.faulty("Run 1;", 1, 0);
         C.faulty("runX 1;", 1, 0);
+        C.faulty("runa 1;", 1, 0);
+        C.faulty("runz 1;", 1, 0);
+        C.faulty("runA 1;", 1, 0);
+        C.faulty("runZ 1;", 1, 0);
+        C.faulty("run@1;", 1, 3);
+        C.faulty("run[1;", 1, 3);
+        C.faulty("run`1;", 1, 3);
+        C.faulty("run{1;", 1, 3);
+        C.faulty("run 1:;", 1, 5);
         C.faulty("ru n 1;", 1, 0);
         C.faulty("run rowcolumn;", 1, 4);
         C.faulty("run 12345;", 1, 4);

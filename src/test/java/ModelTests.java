@@ -205,8 +205,8 @@ public final class ModelTests {
 
     private void call() {
         int sort = random.nextInt(100);
-        if (mood > 0 && (sort < 6 || sort >= 60 && sort < 64)) {
-            // What is told anew, or gone back to, would keep the bounds out of reach.
+        if (mood > 0 && sort < 6) {
+            // A cloth that is told anew would keep the bounds out of reach.
             set3();
         } else if (sort < 6) {
             told();

@@ -144,6 +144,20 @@ public final class ThoughtTests {
     }
 
     private static void saveOfFew() {
+        C.about("18 save, of all");
+        PulledJersey all = new PulledJersey();
+        all.cloth(6, 6);
+        all.set(2, 0, 0);
+        C.due("save(0, 0)", all.save(0, 0), 36);
+        C.due("save(1, 0)", all.save(1, 0), 30);
+        C.due("save(1, 1)", all.save(1, 1), 40);
+        C.due("save(3, 0)", all.save(3, 0), 18);
+        C.due("save(3, 1)", all.save(3, 1), 40);
+        C.due("save(3, 2)", all.save(3, 2), 41);
+        C.due("save(3, 3)", all.save(3, 3), 42);
+        // With 40 doubled it holds two columns below it.
+        all.set(0, 40, 3);
+        C.due("save(1, 0), doubled", all.save(1, 0), 36 - 11);
         C.about("18 save, of few");
         PulledJersey x = new PulledJersey();
         x.cloth(2, 2);

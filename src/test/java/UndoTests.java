@@ -201,10 +201,13 @@ public final class UndoTests {
         for (int time = 0; time < 2; time++) {
             x.cloth(6, 6);
             x.state(9);
-            Checks.tell(x, "run 1000;");
+            Checks.tell(x, "run 10;");
             x.set(2, 0, 0);
             x.hours(5);
+            x.set(2, 0, 1);
+            x.set(2, 0, 0);
             x.cut(20);
+            x.pull(35, 0, 7);
             C.yes("image(false)", x.image(false));
             for (int i = 0; i < 12; i++) {
                 C.due("look(" + i + ")", x.look(i), looks[i]);
