@@ -1,5 +1,16 @@
+import java.io.IOException;
+import java.nio.file.Files;
+import java.nio.file.Path;
+
 /** Counts answers that are as due and prints those that are not. */
 final class Checks {
+    private static final Path DOCUMENT = Path.of("../shared/DOC.md");
+
+    /** One call of an object; a boolean answers 1 or 0. */
+    interface Call {
+        long on(PulledJersey x);
+    }
+
     private final String name;
     private int right;
     private int wrong;
@@ -11,6 +22,20 @@ final class Checks {
 
     void about(String promise) {
         about = promise;
+    }
+
+    /** A sentence word by word as the document has it: the test of one that changed there is stale. */
+    void sentence(String words) {
+        about("'" + words + "'");
+        yes("the document says so", document().contains(words));
+    }
+
+    private static String document() {
+        try {
+            return Files.readString(DOCUMENT);
+        } catch (IOException e) {
+            return "";
+        }
     }
 
     void due(String call, long got, long want) {
@@ -32,6 +57,38 @@ final class Checks {
 
     void no(String call, boolean got) {
         due(call, got, false);
+    }
+
+    static long n(boolean b) {
+        return b ? 1 : 0;
+    }
+
+    /** That the call answers so and leaves all as it was: what shows, what can be undone, the image, the tape. */
+    void refused(String call, Call c, long answer) {
+        PulledJersey x = Worn.make();
+        PulledJersey twin = Worn.make();
+        due(call, c.on(x), answer);
+        same(call + " changed something", x, twin);
+        while (twin.undo()) {
+            yes("undo() behind " + call, x.undo());
+        }
+        no("undo() once more behind " + call, x.undo());
+        same(call + " changed what goes back", x, twin);
+        yes("image(false) behind " + call, x.image(false));
+        twin.image(false);
+        same(call + " changed the image", x, twin);
+        no("one more byte on the tape behind " + call, x.end(Worn.TAPE + 1));
+        yes("all bytes on the tape behind " + call, x.end(Worn.TAPE));
+    }
+
+    void refused(String call, Call c) {
+        refused(call, c, PulledJersey.NONE);
+    }
+
+    void same(String what, PulledJersey x, PulledJersey twin) {
+        String got = Worn.picture(x);
+        String want = Worn.picture(twin);
+        yes(what + ":\n" + got + "\n" + want + "\n", got.equals(want));
     }
 
     /** Tells a text whole: feeds it by twenties, ends it at its length. */
@@ -73,6 +130,13 @@ final class Checks {
         x.gone(9);
         tell(x, "run 0;");
         x.hours(7);
+        return x;
+    }
+
+    /** A new cloth. */
+    static PulledJersey cloth(int w, int h) {
+        PulledJersey x = new PulledJersey();
+        x.cloth(w, h);
         return x;
     }
 
