@@ -63,7 +63,10 @@ final class Checks {
         return b ? 1 : 0;
     }
 
-    /** That the call answers so and leaves all as it was: what shows, what can be undone, the image, the tape. */
+    /**
+     * That the call answers so and leaves all as it was: what shows, what can be undone, how it goes on then, the
+     * image, the tape. It keeps within the 512 calls of an object.
+     */
     void refused(String call, Call c, long answer) {
         PulledJersey x = Worn.make();
         PulledJersey twin = Worn.make();
@@ -73,7 +76,9 @@ final class Checks {
             yes("undo() behind " + call, x.undo());
         }
         no("undo() once more behind " + call, x.undo());
-        same(call + " changed what goes back", x, twin);
+        Worn.goOn(x);
+        Worn.goOn(twin);
+        same(call + " changed what goes back, or how it goes on", x, twin);
         yes("image(false) behind " + call, x.image(false));
         twin.image(false);
         same(call + " changed the image", x, twin);

@@ -147,6 +147,8 @@ public final class ClothBoundTests {
         Checks.tell(first, "run ;");
         C.same("cloth(5, 3) of a worn one", x, first);
         C.no("undo()", x.undo());
+        x.gone(20);
+        C.due("ODDS by no line", x.of(12, 5), 500);
         PulledJersey y = Worn.make();
         y.cloth(6, 6);
         PulledJersey second = Checks.cloth(6, 6);

@@ -68,6 +68,8 @@ public final class LawBoundTests {
         C.odds("run 1 when 1=1;run 2;", 1);
         C.odds("run 1 when 1=2;run 2;", 2);
         C.odds("run 1 when 1=2 or 1=2 or 1=1;run 2;", 1);
+        C.odds("run 1 when 1=2 or 1=1 or 1=2;run 2;", 1);
+        C.odds("run 1 when 1=1 or 1=2 or 1=2;run 2;", 1);
         C.odds("run 1 when 1=2 or 1=2 or 1=2;run 2;", 2);
         C.odds("run 1 when 1=1 or 1=1 and 1=2;run 2;", 1);
         C.odds("run 1 when 1=2 and 1=2 or 1=1;run 2;", 1);

@@ -324,6 +324,11 @@ public final class ThoughtBoundTests {
         x.pull(8, 0, 1);
         C.due("17 is WOUND, too", x.part(1, 1, 2, 2), 0);
         C.due("16 hangs on 8 alone", x.part(0, 0, 2, 2), 1);
+        PulledJersey y = Checks.cloth(3, 3);
+        y.set(0, 8, 2);
+        C.due("0 by the way on", y.pull(0, 1, 1), 1);
+        C.due("1 behind the WOUND 0", y.part(1, 1, 0, 0), 1);
+        C.due("0 itself", y.part(0, 0, 0, 0), 0);
     }
 
     private static void partOfCut() {
@@ -528,6 +533,20 @@ public final class ThoughtBoundTests {
         x.undo();
         C.due("STATE", x.look(7), 99);
         C.yes("all is as it was", Worn.picture(x).equals(first));
+        // What stood ahead of the step stays: a PULL ahead of a CUT, a CUT ahead of an HOUR.
+        x.pull(15, 0, 2);
+        x.cut(7);
+        x.hours(1);
+        x.undo();
+        C.due("the CUT stays", x.at(7, 1), 1);
+        C.due("the LENGTH stays", x.wound(0), 6);
+        C.due("WOUND stays", x.of(24, 6) + x.of(25, 6), 2);
+        C.due("lines of the PULL stay", x.look(5), 2);
+        x.undo();
+        C.due("the CUT is away", x.at(7, 1), 0);
+        C.due("one LENGTH", x.look(4), 1);
+        C.due("WOUND still", x.of(24, 6) + x.of(25, 6), 2);
+        C.due("GONE still", x.look(3), 2);
     }
 
     private static void eightAreKept() {

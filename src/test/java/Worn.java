@@ -7,6 +7,7 @@ final class Worn {
         PulledJersey x = new PulledJersey();
         x.cloth(5, 3);
         x.state(42);
+        x.hours(1);
         Checks.tell(x, "run 900 when row=1;run 0 when row=2;run 3;");
         Checks.tell(x, "run ;");
         x.set(0, 9, 1);
@@ -24,6 +25,11 @@ final class Worn {
         x.cut(8);
         Checks.feed(x, "run 77;");
         return x;
+    }
+
+    static void goOn(PulledJersey x) {
+        x.pull(14, 0, 1);
+        x.hours(1);
     }
 
     static String picture(PulledJersey x) {
