@@ -513,6 +513,7 @@ public final class CallBoundTests {
         C.due("comes(0, 1, 1)", x.comes(0, 1, 1), 1);
         for (int what : new int[] {-1, 2, 3, MIN, MAX}) {
             C.due("comes(14, 0, " + what + ")", x.comes(14, 0, what), NONE);
+            C.due("comes(0, 1, " + what + ")", x.comes(0, 1, what), NONE);
         }
         for (int what = 0; what <= 1; what++) {
             for (int way : new int[] {-1, 2, MIN, MAX}) {

@@ -16,9 +16,11 @@ public final class ClothBoundTests {
         anewKeeps();
         numbers();
         kinds();
+        kindsOfEach();
         here();
         wound();
         caught();
+        caughtOfEach();
         bound();
         rowZeroIsDrawnThroughNone();
         plain();
@@ -29,6 +31,7 @@ public final class ClothBoundTests {
         heldByCatching();
         heldByBinding();
         heldByDrawing();
+        heldByNoneThatIsGone();
         loose();
         thread();
         cuts();
@@ -198,6 +201,25 @@ public final class ClothBoundTests {
         }
     }
 
+    private static int someKind(int k, int turn) {
+        return (k + k / 6 + turn) % 4;
+    }
+
+    private static void kindsOfEach() {
+        C.sentence("Each has a KIND:");
+        PulledJersey x = Checks.cloth(6, 6);
+        for (int k = 0; k < 36; k++) {
+            x.set(0, x.at(k, 0), someKind(k, 0));
+        }
+        for (int told = 0; told < 4; told++) {
+            x.set(0, x.at(9 * told, 0), someKind(9 * told, 1));
+            for (int k = 0; k < 36; k++) {
+                boolean isAnother = k % 9 == 0 && k <= 9 * told;
+                C.due("KIND at place " + k, x.of(x.at(k, 0), 0), someKind(k, isAnother ? 1 : 0));
+            }
+        }
+    }
+
     private static void here() {
         C.sentence("is HERE (at first) or GONE;");
         PulledJersey x = Checks.cloth(6, 6);
@@ -236,6 +258,21 @@ public final class ClothBoundTests {
         x.set(1, 45, 1);
         C.due("CAUGHT", x.of(45, 2), 1);
         C.due("that beside it", x.of(44, 2), 0);
+    }
+
+    private static void caughtOfEach() {
+        C.sentence("CAUGHT or not (not at first).");
+        PulledJersey x = Checks.cloth(6, 6);
+        for (int k = 0; k < 36; k += 2) {
+            x.set(1, x.at(k, 0), 1);
+        }
+        x.set(1, x.at(7, 0), 1);
+        x.set(1, x.at(8, 0), 0);
+        x.set(1, x.at(9, 0), 0);
+        for (int k = 0; k < 36; k++) {
+            int want = k == 7 ? 1 : k == 8 ? 0 : 1 - k % 2;
+            C.due("CAUGHT at place " + k, x.of(x.at(k, 0), 2), want);
+        }
     }
 
     private static void bound() {
@@ -379,6 +416,22 @@ public final class ClothBoundTests {
         C.due("one is HERE", x.of(17, 3), 1);
         x.gone(24);
         C.due("none is HERE", x.of(17, 3), 0);
+    }
+
+    private static void heldByNoneThatIsGone() {
+        C.sentence("or some STITCH that is HERE is DRAWN through it.");
+        for (int w = 2; w <= 6; w++) {
+            for (int kind = 0; kind <= 3; kind++) {
+                PulledJersey x = Checks.cloth(w, 3);
+                for (int c = 0; c < w; c++) {
+                    x.set(0, 8 + c, kind);
+                    x.gone(8 + c);
+                }
+                for (int c = 0; c < w; c++) {
+                    C.due("of(" + c + ", 3) under a row of kind " + kind + " that is GONE", x.of(c, 3), 0);
+                }
+            }
+        }
     }
 
     private static void loose() {

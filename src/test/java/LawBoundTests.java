@@ -8,12 +8,16 @@ public final class LawBoundTests {
         lines();
         ors();
         ands();
+        truths();
+        longConditions();
         clauses();
         sums();
         products();
         units();
         words();
         digits();
+        numbers();
+        noneAnywhere();
         signs();
         blanks();
         wrapping();
@@ -86,6 +90,48 @@ public final class LawBoundTests {
         C.faulty("run 1 when and 1=1;", 1, 11);
         C.faulty("run 1 when 1=1 and;", 1, 18);
         C.faulty("run 1 when 1=1 and or 1=1;", 1, 19);
+    }
+
+    private static String clause(boolean isSo, int form) {
+        String[] so = {"1=1", "1<2", "2>1", "not 1=2", "(1=1)", "not(2<1)", "(1>2 or 1<2)"};
+        String[] not = {"1=2", "2<1", "1>2", "not 1=1", "(1=2)", "not(1<2)", "(1>2 and 1<2)"};
+        return isSo ? so[form % so.length] : not[form % not.length];
+    }
+
+    /** Four clauses, so or not by their bits, joined by and (0) or or (1): an or of ands. */
+    private static void truths(int bits, int ors) {
+        StringBuilder text = new StringBuilder(clause((bits & 1) == 1, bits));
+        boolean any = false;
+        boolean each = (bits & 1) == 1;
+        for (int i = 1; i < 4; i++) {
+            boolean isSo = (bits >> i & 1) == 1;
+            boolean isOr = (ors >> i - 1 & 1) == 1;
+            text.append(isOr ? " or " : " and ").append(clause(isSo, bits + 3 * i + ors));
+            any |= isOr && each;
+            each = isOr ? isSo : each && isSo;
+        }
+        int odds = any || each ? 1 : 2;
+        C.odds("run 1 when " + text + ";run 2;", odds);
+        C.odds("run 1 when not(" + text + ");run 2;", 3 - odds);
+        C.odds("run 1 when (" + text + ")and 1=1;run 2;", odds);
+        C.odds("run 1 when 1=1 and(" + text + ")or 1=2;run 2;", odds);
+    }
+
+    private static void truths() {
+        C.sentence("B = A {or A}.  A = C {and C}.");
+        for (int bits = 0; bits < 16; bits++) {
+            for (int ors = 0; ors < 8; ors++) {
+                truths(bits, ors);
+            }
+        }
+    }
+
+    private static void longConditions() {
+        C.sentence("B = A {or A}.  A = C {and C}.");
+        C.odds("run 1 when " + "1=2or ".repeat(61) + "1=1;run 2;", 1);
+        C.odds("run 1 when " + "1=2or ".repeat(61) + "1=2;run 2;", 2);
+        C.odds("run 1 when " + "1=1and ".repeat(52) + "1=2;run 2;", 2);
+        C.odds("run 1 when " + "1=1and ".repeat(52) + "1=1;run 2;", 1);
     }
 
     private static void clauses() {
@@ -189,6 +235,33 @@ public final class LawBoundTests {
         C.faulty("run 1/00000;", 1, 6);
         C.faulty("run 1/00001;", 1, 6);
         C.faulty("run 123456789012345678901234567890;", 1, 4);
+    }
+
+    private static void numbers() {
+        C.sentence("NUMBERS of 1 to 4 digits");
+        for (int v = 0; v <= 9999; v++) {
+            int thousands = v - v % 1000;
+            C.odds(thousands == 0 ? "run " + v + ";" : "run " + v + "-" + thousands + ";", v % 1000);
+        }
+    }
+
+    /** What is no TOKEN can't stand anywhere, whatever may stand there. */
+    private static void noneAnywhere() {
+        C.sentence("letters as many as stand together are KEYWORDS (those told here) or none;");
+        String[] tokens = ("run 1 + kind - 2 * 3 / 4 when not ( row < 2 and column > 1 or 1 = below ) or 7 = gone"
+            + " and not hour < 5 ; run beside ;").split(" ");
+        right(String.join(" ", tokens), 2);
+        for (int at = 0; at <= tokens.length; at++) {
+            StringBuilder ahead = new StringBuilder();
+            StringBuilder behind = new StringBuilder();
+            for (int i = 0; i < tokens.length; i++) {
+                (i < at ? ahead : behind).append(tokens[i]).append(' ');
+            }
+            for (String none : new String[] {"12345", "00000", "runs", "Row", "x", "!", ",", "\t"}) {
+                C.faulty(ahead + none + " " + behind, 1, ahead.length());
+                C.faulty(ahead + none, 1, ahead.length());
+            }
+        }
     }
 
     /** Any byte behind a whole E: what can't stand is told at it, what can at what is missing behind it. */

@@ -8,13 +8,16 @@ public final class RunBoundTests {
     public static void main(String[] args) {
         oddsOfLines();
         oddsOfNone();
+        oddsOfShorterLaw();
         oddsHeld();
         kindRowColumn();
         beside();
         below();
         hourOfOdds();
         goneInColumn();
+        besideAndGoneByItsSides();
         hourGoesByNumbers();
+        hourOfAll();
         looseAhead();
         drawOnlyAboveZero();
         belowOdds();
@@ -30,11 +33,13 @@ public final class RunBoundTests {
         pullStopsAtCount();
         nothingWound();
         woundOnce();
+        woundByAnotherEnd();
         oneLength();
         hundredLines();
         hundredthLineOfPull();
         hundredthLineOfHour();
         lineOfEach();
+        linesInTheirOrder();
         C.close();
     }
 
@@ -52,6 +57,23 @@ public final class RunBoundTests {
         C.odds("", 500);
         C.odds("run 1 when 1=2;", 500);
         C.odds("run 1 when 1=2;".repeat(16), 500);
+    }
+
+    private static void oddsOfShorterLaw() {
+        C.sentence("E of the first line whose B is so, or that has none (none: 500)");
+        PulledJersey x = Checks.loose();
+        Checks.tell(x, "run 1 when 1=2;run 2 when 1=1 and 1=1;run 3;");
+        C.due("odds by three lines", x.of(10, 5), 2);
+        Checks.tell(x, "run 1 when 1=2;");
+        C.due("odds by one line that is not so", x.of(10, 5), 500);
+        for (int signs = 0; signs < 9; signs++) {
+            Checks.tell(x, "run 1" + "+1".repeat(signs) + ";");
+            C.due("odds by a sum", x.of(10, 5), signs + 1);
+            Checks.tell(x, "run 1 when 1=2;");
+            C.due("odds behind it by a line that is not so", x.of(10, 5), 500);
+        }
+        Checks.tell(x, "");
+        C.due("odds by no line", x.of(10, 5), 500);
     }
 
     private static void oddsHeld() {
@@ -161,6 +183,25 @@ public final class RunBoundTests {
         }
     }
 
+    private static void besideAndGoneByItsSides() {
+        C.sentence("beside: how many of the two beside it in its row are HERE;");
+        PulledJersey wide = unbound(6, 2);
+        Checks.tell(wide, "run 10*gone+beside;");
+        int[] beside = {1, 2, 2, 2, 2, 1};
+        for (int c = 0; c < 6; c++) {
+            C.due("of(" + (8 + c) + ", 5) of six by two", wide.of(8 + c, 5), beside[c]);
+            wide.gone(c);
+            C.due("of(" + (8 + c) + ", 5) over one that is GONE", wide.of(8 + c, 5), 10 + beside[c]);
+        }
+        PulledJersey high = unbound(2, 6);
+        Checks.tell(high, "run 10*gone+beside;");
+        for (int y = 0; y < 5; y++) {
+            high.gone(8 * y + 1);
+            C.due("of(41, 5) of two by six", high.of(41, 5), 10 * (y + 1) + 1);
+            C.due("of(40, 5) of two by six", high.of(40, 5), 1);
+        }
+    }
+
     /** 8 and 11 are loose: in the row 8 comes first by its number, on the thread 11 does. */
     private static PulledJersey twoLoose(String law) {
         PulledJersey x = new PulledJersey();
@@ -182,6 +223,20 @@ public final class RunBoundTests {
         C.due("8 at 563 by the draw 563", y.of(8, 1), 1);
         C.due("11 at 577 by the draw 577", y.of(11, 1), 1);
         C.due("two draws", y.look(7), STATES[2]);
+    }
+
+    private static void hourOfAll() {
+        C.sentence("An HOUR: STITCH by STITCH, 0 first:");
+        PulledJersey x = unbound(6, 6);
+        for (int k = 0; k < 36; k++) {
+            x.set(0, x.at(k, 0), 2);
+        }
+        Checks.tell(x, "run 1000;");
+        C.due("all 36 are LOOSE and go", x.hours(1), 36);
+        C.due("none is left", x.look(3), 36);
+        for (int i = 0; i < 36; i++) {
+            C.due("book(" + i + ", 1)", x.book(i, 1), 8 * (i / 6) + i % 6);
+        }
     }
 
     private static void looseAhead() {
@@ -392,8 +447,27 @@ public final class RunBoundTests {
         C.due("is wound anew", x.wound(2), 3);
     }
 
+    private static void woundByAnotherEnd() {
+        C.sentence("all that did or was passed, and is not WOUND yet, is so then,");
+        PulledJersey x = unbound(3, 2);
+        // Row 0 hangs on nothing, so that it comes undone by the way on, too.
+        for (int s = 8; s <= 10; s++) {
+            x.set(0, s, 2);
+        }
+        x.pull(0, 1, 2);
+        x.pull(5, 0, 1);
+        C.due("0 and 1 stay WOUND, 8 is so", x.of(0, 6) + x.of(1, 6) + x.of(8, 6), 3);
+        C.due("2, 9 and 10 are not", x.of(2, 6) + x.of(9, 6) + x.of(10, 6), 0);
+        C.due("all that is left", x.pull(5, 0, 36), 3);
+        C.due("2, 10 and 9", x.wound(2), 3 + 2 + 2);
+        C.due("all added", x.look(11), 3 * 3 + 3 * 2);
+    }
+
     private static void oneLength() {
         C.sentence("as one LENGTH: theirs added.");
+        PulledJersey all = unbound(6, 6);
+        all.pull(35, 0, 36);
+        C.due("36 of 3", all.wound(0), 108);
         PulledJersey x = unbound(2, 2);
         x.set(0, 8, 3);
         x.set(0, 9, 2);
@@ -475,5 +549,26 @@ public final class RunBoundTests {
             }
         }
         C.due("three lines", x.look(5), 3);
+    }
+
+    private static void linesInTheirOrder() {
+        C.sentence("of each that goes: HOUR, STITCH, how: 0 it was told, 1 it ran, 2 it was pulled.");
+        PulledJersey x = unbound(3, 3);
+        Checks.tell(x, "run 1000 when hour=3 and row=1;run 0;");
+        x.pull(8, 0, 2);
+        x.gone(16);
+        x.hours(3);
+        x.gone(1);
+        x.hours(1);
+        x.gone(2);
+        x.pull(8, 0, 1);
+        int[][] lines = {{0, 18, 2}, {0, 17, 2}, {0, 16, 0}, {3, 1, 0}, {3, 8, 1}, {3, 9, 1}, {3, 10, 1}, {4, 2, 0},
+            {4, 0, 2}};
+        C.due("so many lines", x.look(5), lines.length);
+        for (int i = 0; i < lines.length; i++) {
+            for (int what = 0; what < 3; what++) {
+                C.due("book(" + i + ", " + what + ")", x.book(i, what), lines[i][what]);
+            }
+        }
     }
 }

@@ -7,6 +7,7 @@ public final class ThoughtBoundTests {
         nothingStays();
         runsOfHere();
         runsCountMore();
+        runsOfKinds();
         runsOfLoose();
         runsLeastRow();
         saveLoops();
@@ -18,6 +19,7 @@ public final class ThoughtBoundTests {
         comesStops();
         comesAtNone();
         allComesUndone();
+        allOfThirtySix();
         allLeast();
         part();
         partOfWound();
@@ -25,6 +27,7 @@ public final class ThoughtBoundTests {
         join();
         quietMillion();
         quietDownwards();
+        quietByTheHour();
         firstOfWhole();
         firstAsNow();
         firstJustThose();
@@ -37,6 +40,7 @@ public final class ThoughtBoundTests {
         whatDoesNotForget();
         imageHoldsAll();
         imageHoldsNot();
+        imageOfFullRows();
         imageAsItWas();
         imageMoreThanOnce();
         C.close();
@@ -78,6 +82,22 @@ public final class ThoughtBoundTests {
         x.set(0, 41, 2);
         C.due("runs(40, 0)", x.runs(40, 0), 10);
         C.due("runs(41, 0)", x.runs(41, 0), 0);
+    }
+
+    private static void runsOfKinds() {
+        C.sentence("if it went, how many more would be GONE in the end, if whatever is LOOSE goes");
+        // All of row 1 of one kind: 16 goes, so 8 does, and what hung on 8 alone.
+        int[] more = {2, 2, 1, 2};
+        int[] rows = {0, 0, 1, 0};
+        for (int kind = 0; kind <= 3; kind++) {
+            PulledJersey x = Checks.cloth(2, 3);
+            x.set(1, 0, kind == 2 ? 1 : 0);
+            x.set(1, 1, kind == 2 ? 1 : 0);
+            x.set(0, 8, kind);
+            x.set(0, 9, kind);
+            C.due("runs(16, 0) over a row of kind " + kind, x.runs(16, 0), more[kind]);
+            C.due("runs(16, 1) over a row of kind " + kind, x.runs(16, 1), rows[kind]);
+        }
     }
 
     private static void runsOfLoose() {
@@ -271,6 +291,21 @@ public final class ThoughtBoundTests {
         C.due("nothing is HERE, no way", x.all(1), NONE);
     }
 
+    private static void allOfThirtySix() {
+        C.sentence("ALL: the END by which all that is HERE comes undone:");
+        PulledJersey x = Checks.cloth(6, 6);
+        x.set(2, 0, 0);
+        C.due("36 of 36", x.all(0), 35);
+        x.set(1, 0, 1);
+        C.due("35 of 36", x.all(0), NONE);
+        x.set(1, 0, 0);
+        x.cut(0);
+        C.due("35 to the CUT", x.all(0), NONE);
+        x.gone(0);
+        C.due("35 of 35 to the CUT", x.all(0), 35);
+        C.due("its way", x.all(1), 0);
+    }
+
     private static void allLeast() {
         C.sentence("of several the least place, way 0 first.");
         PulledJersey x = Checks.cloth(3, 2);
@@ -329,6 +364,13 @@ public final class ThoughtBoundTests {
         C.due("0 by the way on", y.pull(0, 1, 1), 1);
         C.due("1 behind the WOUND 0", y.part(1, 1, 0, 0), 1);
         C.due("0 itself", y.part(0, 0, 0, 0), 0);
+        PulledJersey z = Checks.cloth(2, 2);
+        z.set(2, 0, 0);
+        z.set(0, 8, 2);
+        z.set(0, 9, 2);
+        C.due("0, 1 and 9 by the way on", z.pull(0, 1, 3), 3);
+        C.due("8 behind the WOUND 9", z.part(0, 0, 1, 1), 0);
+        C.due("the row of both", z.part(0, 1, 1, 1), 0);
     }
 
     private static void partOfCut() {
@@ -390,6 +432,19 @@ public final class ThoughtBoundTests {
         Checks.tell(x, "run 1;");
         // 999000, 998001, 997002, 996004, 995007, 994011; the whole is 994014.98.
         C.due("six of 999 in 1000", x.quiet(), 994011);
+    }
+
+    private static void quietByTheHour() {
+        C.sentence("then for each LOOSE one times 1000 less its ODDS,");
+        PulledJersey x = new PulledJersey();
+        Checks.tell(x, "run 100*hour when row=2;run 0;");
+        x.hours(3);
+        x.gone(24);
+        C.due("ODDS 300 by the HOUR 3", x.quiet(), 700000);
+        x.undo();
+        x.undo();
+        x.gone(24);
+        C.due("ODDS 200 by the HOUR 2", x.quiet(), 800000);
     }
 
     private static void firstOfWhole() {
@@ -657,6 +712,72 @@ public final class ThoughtBoundTests {
         x.image(false);
         C.due("nothing can be undone", x.look(10), 0);
         C.no("undo()", x.undo());
+    }
+
+    private static void allBack(PulledJersey x) {
+        for (int s = 0; s < 48; s++) {
+            if (s % 8 < 6) {
+                x.set(3, s, 0);
+            }
+        }
+    }
+
+    private static void twentyPulls(PulledJersey x, int first) {
+        for (int i = 0; i < 20; i++) {
+            x.pull(35, 0, i % 2 == first ? 2 : 1);
+        }
+    }
+
+    /** BOOK and LENGTHS are full then, by one of two ways that have no line and no LENGTH in common. */
+    private static void fill(PulledJersey x, int sort) {
+        x.cloth(6, 6);
+        x.set(2, 0, 0);
+        Checks.tell(x, "run 1000 when hour<6;run 0;");
+        if (sort == 0) {
+            twentyPulls(x, 0);
+            allBack(x);
+            x.hours(6);
+        } else {
+            x.hours(6);
+            allBack(x);
+            twentyPulls(x, 1);
+        }
+        allBack(x);
+        for (int i = 0; i < 34; i++) {
+            x.gone(i / 6 + 8 * (sort == 0 ? i % 6 : 5 - i % 6));
+            if (i % 3 == sort) {
+                x.hours(1 + sort);
+            }
+        }
+    }
+
+    private static String fullRows(PulledJersey x) {
+        StringBuilder all = new StringBuilder();
+        for (int i = 0; i < 20; i++) {
+            all.append(x.wound(i)).append(' ');
+        }
+        for (int i = 1; i < 100; i += 2) {
+            all.append(x.book(i, 0)).append('-').append(x.book(i, 1)).append('-').append(x.book(i, 2)).append(' ');
+        }
+        return all.toString();
+    }
+
+    private static void imageOfFullRows() {
+        C.sentence("THE IMAGE: all that is and was told but");
+        PulledJersey x = new PulledJersey();
+        fill(x, 0);
+        C.yes("image(true)", x.image(true));
+        fill(x, 1);
+        C.yes("image(false)", x.image(false));
+        C.due("LENGTHS as they were", x.look(4), 20);
+        C.due("lines as they were", x.look(5), 100);
+        PulledJersey twin = new PulledJersey();
+        fill(twin, 0);
+        String then = fullRows(twin);
+        C.yes("each of them as it was", fullRows(x).equals(then));
+        PulledJersey other = new PulledJersey();
+        fill(other, 1);
+        C.no("the other way makes other lines", fullRows(other).equals(then));
     }
 
     private static void imageAsItWas() {
