@@ -40,6 +40,7 @@ public final class RunBoundTests {
         hundredthLineOfHour();
         lineOfEach();
         linesInTheirOrder();
+        linesOfTheLastHour();
         C.close();
     }
 
@@ -193,6 +194,16 @@ public final class RunBoundTests {
             wide.gone(c);
             C.due("of(" + (8 + c) + ", 5) over one that is GONE", wide.of(8 + c, 5), 10 + beside[c]);
         }
+        // Row 0 is LOOSE where 8 and 9 went; what is CAUGHT, CUT or WOUND counts for nothing.
+        PulledJersey low = unbound(6, 2);
+        Checks.tell(low, "run 10*gone+beside;");
+        low.cut(4);
+        low.pull(11, 0, 2);
+        low.set(1, 5, 1);
+        C.due("of(0, 5) with 1 beside it", low.of(0, 5), 11);
+        C.due("of(1, 5) with 0 and 2 beside it", low.of(1, 5), 12);
+        low.gone(1);
+        C.due("of(0, 5) with none beside it", low.of(0, 5), 10);
         PulledJersey high = unbound(2, 6);
         Checks.tell(high, "run 10*gone+beside;");
         for (int y = 0; y < 5; y++) {
@@ -570,5 +581,27 @@ public final class RunBoundTests {
                 C.due("book(" + i + ", " + what + ")", x.book(i, what), lines[i][what]);
             }
         }
+    }
+
+    private static void linesOfTheLastHour() {
+        C.sentence("of each that goes: HOUR, STITCH, how:");
+        PulledJersey x = unbound(6, 6);
+        Checks.tell(x, "run 0 when hour<9998;run 1000;");
+        for (int i = 0; i < 99; i++) {
+            x.hours(100);
+        }
+        x.hours(98);
+        C.due("the last HOUR that goes by", x.hours(1), 6);
+        C.yes("gone(32)", x.gone(32));
+        C.due("pull(35, 0, 36) at HOUR 9999", x.pull(35, 0, 36), 29);
+        C.due("all went", x.look(3), 36);
+        C.due("all are WOUND", x.wound(0), 108);
+        int[][] lines = {{0, 9998, 40, 1}, {5, 9998, 45, 1}, {6, 9999, 32, 0}, {7, 9999, 37, 2}, {35, 9999, 0, 2}};
+        for (int[] one : lines) {
+            for (int what = 0; what < 3; what++) {
+                C.due("book(" + one[0] + ", " + what + ")", x.book(one[0], what), one[what + 1]);
+            }
+        }
+        C.due("36 lines", x.look(5), 36);
     }
 }

@@ -9,6 +9,7 @@ public final class ThoughtBoundTests {
         runsCountMore();
         runsOfKinds();
         runsOfLoose();
+        runsOfAllAtOnce();
         runsLeastRow();
         saveLoops();
         saveNotCaughtYet();
@@ -111,6 +112,34 @@ public final class ThoughtBoundTests {
         C.due("all the others", x.runs(3, 0), 14);
     }
 
+    private static PulledJersey unboundOfKind(int kind) {
+        PulledJersey x = Checks.cloth(6, 6);
+        for (int k = 0; k < 36; k++) {
+            x.set(0, x.at(k, 0), kind);
+        }
+        x.set(2, 0, 0);
+        return x;
+    }
+
+    private static void runsOfAllAtOnce() {
+        C.sentence("if whatever is LOOSE goes (ODDS not asked; those LOOSE already, too)");
+        for (int kind = 0; kind <= 3; kind++) {
+            PulledJersey x = unboundOfKind(kind);
+            C.due("runs(0, 0), all of kind " + kind, x.runs(0, 0), 35);
+            C.due("runs(45, 1), all of kind " + kind, x.runs(45, 1), 0);
+            C.due("save(0, 0), all of kind " + kind, x.save(0, 0), 36);
+        }
+        // Two are left, both LOOSE, and both behind a CUT.
+        PulledJersey y = Checks.cloth(2, 2);
+        y.cut(0);
+        y.cut(1);
+        y.gone(8);
+        y.gone(9);
+        C.due("runs(0, 0) of two", y.runs(0, 0), 1);
+        C.due("runs(0, 1) of two", y.runs(0, 1), 0);
+        C.due("save(0, 0) of two", y.save(0, 0), 2);
+    }
+
     private static void runsLeastRow() {
         C.sentence("the least row of them.");
         PulledJersey x = Checks.cloth(2, 6);
@@ -123,6 +152,9 @@ public final class ThoughtBoundTests {
         C.due("row 4 alone", x.runs(40, 1), 4);
         C.due("not the row of that which went", x.runs(24, 1), 0);
         C.due("row 0 of one that would go below it", x.runs(8, 1), 0);
+        x.gone(41);
+        x.set(1, 1, 1);
+        C.due("of those LOOSE already, by 0 that frees none", x.runs(0, 1), 1);
     }
 
     private static void saveLoops() {
